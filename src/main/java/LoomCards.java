@@ -1433,8 +1433,10 @@ public final class LoomCards {
             return from >= 0 && n >= 0 && n <= size && from <= size - n;
         }
 
+        /** A number keeps the lowest bits of v, the highest of them as its sign. */
         void put(int i, long v) {
-            numbers[i] = bits == 64 ? v : v & ((1L << bits) - 1);
+            int above = 64 - bits;
+            numbers[i] = (v << above) >> above;
         }
 
         int threadsIn(int i) {

@@ -748,12 +748,28 @@ public final class LoomCardsPromisesTest {
     x.sheet(1, 16, 2);
     x.sheet(2, 64, 2);
     for (int s = 0; s < 3; s++) due("it was", x.write(s, 1, -2), 0);
-    due("8 bits", x.write(0, 1, 0x1ff), 254);
-    due("16 bits", x.write(1, 1, 0x1ffff), 65534);
+    due("8 bits", x.write(0, 1, 0x1ff), -2);
+    due("16 bits", x.write(1, 1, 0x1ffff), -2);
     due("64 bits", x.write(2, 1, Long.MIN_VALUE), -2);
-    due("8 bits", x.write(0, 1, 0), 255);
-    due("16 bits", x.write(1, 1, 0), 65535);
+    due("8 bits", x.write(0, 1, 0), -1);
+    due("16 bits", x.write(1, 1, 0), -1);
     due("64 bits", x.write(2, 1, BEYOND), Long.MIN_VALUE);
+    long[] put = {127, 128, 255, 256, -128, -129, 0x5a80, 0x5a7f};
+    long[] of8 = {127, -128, -1, 0, -128, 127, -128, 127};
+    for (int i = 0; i < put.length; i++) {
+      x.write(0, 0, put[i]);
+      due("8 bits of " + put[i], x.write(0, 0, 0), of8[i]);
+    }
+    put = new long[] {32767, 32768, 65535, 65536, -32768, -32769, 0x5a8101, 128};
+    long[] of16 = {32767, -32768, -1, 0, -32768, 32767, -32511, 128};
+    for (int i = 0; i < put.length; i++) {
+      x.write(1, 0, put[i]);
+      due("16 bits of " + put[i], x.write(1, 0, 0), of16[i]);
+    }
+    for (long v : new long[] {Long.MAX_VALUE, Long.MIN_VALUE, 1L << 40, -1}) {
+      x.write(2, 0, v);
+      due("64 bits of " + v, x.write(2, 0, 0), v);
+    }
     int findings = x.status(-1);
     due("a number, no finding", x.write(2, 1, 0), BEYOND);
     due("not counted", x.status(-1), findings);
@@ -785,6 +801,10 @@ public final class LoomCardsPromisesTest {
     due("came", x.write(1, 2, 0), 5);
     due("up", x.copy(0, 0, 0, 1, 4), 4);
     for (int i = 0; i < 5; i++) due("as they were", x.write(0, i, i + 1), new int[] {1, 1, 2, 3, 4}[i]);
+    x.write(0, 0, 0x8001);
+    x.copy(0, 0, 1, 0, 1);
+    due("with its sign", x.write(1, 0, 0), -32767);
+    x.write(0, 0, 1);
     due("all", x.copy(0, 0, 0, 0, 5), 5);
     due("down", x.copy(0, 1, 0, 0, 4), 4);
     for (int i = 0; i < 5; i++) due("as they were", x.write(0, i, 0), new int[] {2, 3, 4, 5, 5}[i]);
@@ -799,8 +819,10 @@ public final class LoomCardsPromisesTest {
     x.write(1, 3, 9);
     due("as far as it has", x.draw(0), 2);
     due("as far as there are", x.draw(1), 3);
-    due("a row", x.write(0, 0, 0), 0x8181);
-    due("its lowest bits", x.write(1, 0, 0), 0x81);
+    due("a row", x.write(0, 0, 0), 0x8181 - 0x10000);
+    due("a row", x.write(0, 1, 0), 0x0202);
+    due("its lowest bits", x.write(1, 0, 0), 0x81 - 0x100);
+    due("its lowest bits", x.write(1, 1, 0), 0x02);
     due("behind the rows", x.write(1, 3, 0), 9);
 
     x = woven(37, 0x81, 0x02, 0x04);
@@ -830,6 +852,23 @@ public final class LoomCardsPromisesTest {
     x.pick(2);
     x.punch(0, 0, 2);
     due("the card has changed", x.read(0), 1);
+    x = woven(37, 0x7f, 0xff, 0x80);
+    for (int thread = 8; thread < 16; thread++) x.tie(thread, 7);
+    x.sheet(0, 8, 3);
+    x.draw(0);
+    due("8 bits with their sign", x.read(0), 0);
+    x.tie(15, 0);
+    due("of the first", x.read(0), 1);
+    x.write(0, 0, 0x80);
+    due("8 bits below 0", x.whose(0, 0), NONE);
+    x.tie(15, 7);
+    due("8 bits below 0", x.whose(0, 0), 2);
+    due("8 bits below 0", x.nearest(0, 1), 1);
+    due("8 bits below 0", x.crossings(0), 0);
+    due("8 bits below 0", x.order(0), 3);
+    due("woven", x.woven(0), 2);
+    x.write(0, 0, 0x81);
+    due("8 bits below 0", x.mark(0), 0);
 
     x = begin(38);
     due("no such sheet", x.whose(4, 0), BEYOND);

@@ -538,7 +538,7 @@ final class LoomModel {
   }
 
   private static long cut(long v, int bits) {
-    return bits == 8 ? v & 0xffL : bits == 16 ? v & 0xffffL : v;
+    return bits == 8 ? (byte) v : bits == 16 ? (short) v : v;
   }
 
   long write(int s, int i, long v) {
