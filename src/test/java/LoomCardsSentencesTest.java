@@ -21,8 +21,8 @@ public final class LoomCardsSentencesTest {
   private static final List<Class<?>> TESTS = List.of(TermSentences.class, RefusedSentences.class,
       CardSentences.class, OrderSentences.class, LawSentences.class, EatenSentences.class, OrdersSentences.class,
       TextSentences.class, SheetSentences.class, ImageSentences.class);
-  /** Sentences that no call can tell: no call has a quotient, and sets are asked by all that answer one. */
-  private static final List<String> UNTESTED = List.of("Quotients are cut.", "Sets are told by bits.");
+  /** No call has a quotient, so none can tell how it is cut. */
+  private static final List<String> UNTESTED = List.of("Quotients are cut.");
 
   public static void main(String[] args) throws IOException, IllegalAccessException {
     List<Method> tests = tests();

@@ -50,6 +50,22 @@ final class TermSentences extends Sentences {
     due("BEYOND", x.write(0, 1, 0), -1000000001L);
   }
 
+  @Says(promise = 0, text = "Sets are told by bits.")
+  static void eachMemberOfASetHasItsBit() {
+    for (int hook = 0; hook < 8; hook++) {
+      LoomCards x = new LoomCards();
+      x.card(1 << hook, 0);
+      x.card(0, 1 << hook);
+      for (int h = 0; h < 8; h++) due("a hole at " + h, x.at(0, h), h == hook ? 1 : 0);
+      for (int h = 0; h < 8; h++) due("eaten at " + h, x.at(1, h), h == hook ? 2 : 0);
+    }
+    for (int c = 0; c < 10; c++) {
+      LoomCards x = tenCards();
+      x.lay(1 << c, 0);
+      due("the card of bit " + c, x.woven(0), c);
+    }
+  }
+
   @Says(promise = 0, text = "HOOKS 0 to 7.")
   static void thereAreEightHooks() {
     for (int hook = 0; hook < 8; hook++) {
@@ -488,5 +504,18 @@ final class TermSentences extends Sentences {
     x.sheet(1, 16, 1);
     x.write(1, 0, 0x8181);
     due("16 bits with a sign", x.read(1), 0);
+  }
+
+  @Says(promise = 0, text = "each number's lowest 16 bits a ROW, as a set of THREADS")
+  static void aNumberOf8BitsBelow0HasTheUpperThreadsUp() {
+    LoomCards x = woven(0x80);
+    for (int t = 8; t < 16; t++) x.tie(t, 7);
+    x.sheet(0, 8, 1);
+    x.write(0, 0, 127);
+    due("127", x.read(0), 1);
+    x.write(0, 0, 128);
+    due("-128", x.read(0), 0);
+    x.write(0, 0, -127);
+    due("-127", x.mark(0), 0);
   }
 }
