@@ -699,6 +699,7 @@ public final class LoomCardsPromisesTest {
     due("no findings", x.status(-1), 0);
 
     // What stands ahead of a FAULT does not come either.
+    x = begin(32);
     x.tie(3, 1);
     loomDue(x, "card ########;tie 3 5;law 3;order 0;nine", -37);
     due("cards", x.count(0), 0);
