@@ -301,6 +301,27 @@ final class TextSentences extends Sentences {
     due("none", x.of(2, 0) + x.of(2, 1), 0);
   }
 
+  @Says(promise = 0, text = "PUNCHES (8 of them: HOOKS 0 to 7")
+  static void punchesMayEndAtTheLastByteOfTheTape() {
+    LoomCards x = new LoomCards();
+    items(x, " ".repeat(107) + "card #.?.#.?#", 1);
+    due("holes", x.of(0, 0), 0x91);
+    due("eaten", x.of(0, 1), 0x44);
+  }
+
+  @Says(promise = 0, text = "PUNCHES (8 of them: HOOKS 0 to 7")
+  static void punchesOfATapeBeforeAreNotRead() {
+    for (String before : new String[] {"#", "?", "."}) {
+      LoomCards x = new LoomCards();
+      fault(x, before.repeat(120), 0);
+      items(x, "card ........", 1);
+      due("holes", x.of(0, 0), 0);
+      due("eaten", x.of(0, 1), 0);
+      due("how many holes", x.of(0, 2), 0);
+      due("count(3)", x.count(3), 0);
+    }
+  }
+
   @Says(promise = 0, text = "PUNCHES (8 of them")
   static void punchesAreNeither7Nor9() {
     for (int n = 1; n <= 115; n++) {
